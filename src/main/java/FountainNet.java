@@ -964,7 +964,10 @@ public final class FountainNet {
         }
     }
 
-    /** Seeks LEAKS that EXPLAIN the GAUGES. More LEAK never makes a RISE greater: that cuts the search short. */
+    /**
+     * Seeks LEAKS that EXPLAIN the GAUGES; between two tries no LEAK is tried any more. More LEAK never
+     * makes a RISE greater: that cuts the search short.
+     */
     private static final class LeakSearch {
         private static final int TOO_LOW = 1;
         private static final int TOO_HIGH = 2;
@@ -986,7 +989,6 @@ public final class FountainNet {
             if (!isAnyRead()) {
                 return 4;
             }
-            forgetTries();
             if (misses() == 0) {
                 return 0;
             }
@@ -1010,7 +1012,6 @@ public final class FountainNet {
             if (!isAnyRead()) {
                 return 0;
             }
-            forgetTries();
             int found = 0;
             for (int j = 0; j < garden.joints.size(); j++) {
                 found += explainsAlone(garden.joints.get(j)) ? 1 : 0;
@@ -1032,12 +1033,6 @@ public final class FountainNet {
                 }
             }
             return false;
-        }
-
-        private void forgetTries() {
-            for (int j = 0; j < garden.joints.size(); j++) {
-                garden.joints.get(j).triedLeak = 0;
-            }
         }
 
         private boolean explainsAlone(Joint joint) {

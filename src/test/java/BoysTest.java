@@ -124,6 +124,10 @@ public final class BoysTest {
         Due.due("22: too slow", x.boys(), 2);
         x.pace(0);
         Due.due("22: PACE 0", x.boys(), 1);
+        FountainNet y = garden();
+        y.view(3, 0, 50, 0);
+        y.view(1, 51, 99, 0);
+        Due.due("22: two only at first", y.boys(), 2);
     }
 
     private static void boysCross() {

@@ -48,6 +48,9 @@ public final class FaceTest {
             must(Modifier.isStatic(c.getModifiers()), c + " is static");
             must(!Modifier.isPublic(c.getModifiers()) && !Modifier.isProtected(c.getModifiers()), c + " is not public");
             form(c);
+            for (Method m : c.getDeclaredMethods()) {
+                must(List.of(FACE).stream().noneMatch(f -> f.startsWith(m.getName() + "(")), m + " bears another name");
+            }
         }
         source(Files.readAllLines(Path.of("src/main/java/FountainNet.java"), StandardCharsets.ISO_8859_1));
         Due.end("FaceTest");

@@ -43,6 +43,7 @@ public final class FrostTest {
         x.play(0, false);
         Due.due("28: SHUT", x.empty(2), 1);
         Due.due("28: the first", x.empty(0), 1);
+        Due.due("28: count(6)", x.count(6), 4);
         Due.refused("28: no JOINT", FrostTest::tree, y -> y.empty(4), -1);
         Due.refused("28: JOINT -1", FrostTest::tree, y -> y.empty(-1), -1);
         Due.refused("28: JOINT MAX", FrostTest::tree, y -> y.empty(MAX), -1);

@@ -7,6 +7,7 @@ public final class GaugesTest {
         gauge();
         tol();
         notRead();
+        readAsNothing();
         none();
         one();
         oneOfMany();
@@ -80,11 +81,18 @@ public final class GaugesTest {
         FountainNet x = star(3, 300);
         told("25: no GAUGE", x, 4, -9, -9, -9, -9);
         Due.due("27: no GAUGE", x.rivals(), 0);
-        x.gauge(1, 5);
+        x.gauge(1, riseWith(16));
+        Due.due("26: explained(1) alone", x.explained(1), 16);
         x.gauge(1, -1);
         told("25: read no more", x, 4, -9, -9, -9, -9);
         Due.due("27: read no more", x.rivals(), 0);
         told("25: nothing there", new FountainNet(), 4, -9, -9, -9, -9);
+    }
+
+    private static void readAsNothing() {
+        FountainNet x = star(1, 300);
+        x.gauge(0, 0);
+        told("25: 0 is read", x, 1, 0, 17, -9, -9);
     }
 
     private static void none() {

@@ -121,6 +121,9 @@ public final class JetsTest {
         Due.due("12: share(1, 0)", x.share(1, 0), 31);
         Due.due("12: both PLAY on", x.count(4), 2);
         Due.due("12: RISE as it was", x.rise(0), 37);
+        x.leak(0, 1);
+        // 23 * 23 by 10 is 52, 11 * 11 by 10 is 12
+        Due.due("12: with a LEAK", x.share(0, 1), 9 * 78 / 10 - 9 * 38 / 10);
         Due.refused("12: one is no JET", JetsTest::pair, y -> y.share(0, 3), -1);
         Due.refused("12: the other is none", JetsTest::pair, y -> y.share(-1, 0), -1);
         Due.refused("12: the same", JetsTest::pair, y -> y.share(0, 0), -1);

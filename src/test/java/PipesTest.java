@@ -104,7 +104,8 @@ public final class PipesTest {
         FountainNet x = fork();
         Due.due("8: leak(2, 60)", x.leak(2, 60), 0);
         Due.due("8: leak(2, 5)", x.leak(2, 5), 60);
-        Due.due("8: leak(2, 5)", x.leak(2, 5), 5);
+        Due.due("8: leak(2, 0)", x.leak(2, 0), 5);
+        Due.due("8: leak(2, 5)", x.leak(2, 5), 0);
         Due.due("8: leak(3, 9) of an EMPTY one", x.leak(3, 9), 0);
         Due.due("8: it is told", x.jointOf(3, 7), 9);
         Due.row("9: flow", 0, 3, x::flow, 19, 6, 13, 0);
