@@ -128,6 +128,10 @@ public final class BoysTest {
         y.view(3, 0, 50, 0);
         y.view(1, 51, 99, 0);
         Due.due("22: two only at first", y.boys(), 2);
+        FountainNet z = garden();
+        z.view(5, 0, 50, 0);
+        z.view(1, 51, 99, 0);
+        Due.due("22: two only at first, the lesser JOINT first", z.boys(), 2);
     }
 
     private static void boysCross() {
