@@ -1,4 +1,7 @@
-/** Promise 33, and the terms of REFUSALS: a test for each sentence that names an edge, and an object of which nothing is told. */
+/**
+ * Promise 33, and the terms of REFUSALS: a test for each sentence that names an edge, and an object of which
+ * nothing is told.
+ */
 public final class CountEdgesTest {
     private static final int MIN = Integer.MIN_VALUE;
     private static final int MAX = Integer.MAX_VALUE;

@@ -36,6 +36,39 @@ final class Gardens {
         return x;
     }
 
+    /** A TANK of 60 of LEVEL 106, no LOSS; JET 0 draws 5 at 10 feet (RISE 86), JET 1 draws 7 at 20 (RISE 77). */
+    static FountainNet twoJets() {
+        FountainNet x = new FountainNet();
+        x.tank(100, 10, 6, 0);
+        x.joint(true, 0, 10, 9, 1);
+        x.joint(true, 0, 20, 9, 1);
+        x.jet(0, 5);
+        x.jet(1, 7);
+        return x;
+    }
+
+    /**
+     * PIPES from a TANK of such a FLOOR, of SIZE 1, LENGTH 100: LOSS is FLOW times FLOW; a JET of DRAW 1 at
+     * each end (24 at most), all PLAY.
+     */
+    static FountainNet star(int joints, int floor) {
+        FountainNet x = new FountainNet();
+        x.tank(floor, 10, 1, 0);
+        for (int j = 0; j < joints; j++) {
+            x.joint(true, 0, 0, 1, 100);
+            if (j < 24) {
+                x.jet(j, 1);
+                x.play(j, true);
+            }
+        }
+        return x;
+    }
+
+    /** The RISE of a JET of a star of FLOOR 300 with such a LEAK. */
+    static int starRise(int leak) {
+        return 9 * (301 - (leak + 1) * (leak + 1)) / 10;
+    }
+
     /**
      * All that there may be: 4 TANKS, 30 JOINTS (0 to 3 from the TANKS, else J from J - 4), 24 JETS (I at
      * JOINT 6 + I, all PLAY but the last, whose PIPE is EMPTY), all GAUGES read, 12 VIEWS, the last MINUTE 47.

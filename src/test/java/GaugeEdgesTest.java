@@ -27,29 +27,11 @@ public final class GaugeEdgesTest {
         Due.end("GaugeEdgesTest");
     }
 
-    /** PIPES from a TANK, LEVEL 301, LOSS is FLOW times FLOW; a JET of DRAW 1 at each end (24 at most), all PLAY. */
-    private static FountainNet star(int joints) {
-        FountainNet x = new FountainNet();
-        x.tank(300, 10, 1, 0);
-        for (int j = 0; j < joints; j++) {
-            x.joint(true, 0, 0, 1, 100);
-            if (j < 24) {
-                x.jet(j, 1);
-                x.play(j, true);
-            }
-        }
-        return x;
-    }
-
-    private static int riseWith(int leak) {
-        return 9 * (301 - (leak + 1) * (leak + 1)) / 10;
-    }
-
     /** A star with GAUGES read in the order of JETS as if these LEAKS were; -1: not read. */
     private static FountainNet leaking(int joints, int... leaks) {
-        FountainNet x = star(joints);
+        FountainNet x = Gardens.star(joints, 300);
         for (int i = 0; i < leaks.length; i++) {
-            x.gauge(i, leaks[i] < 0 ? -1 : riseWith(leaks[i]));
+            x.gauge(i, leaks[i] < 0 ? -1 : Gardens.starRise(leaks[i]));
         }
         return x;
     }
@@ -73,7 +55,7 @@ public final class GaugeEdgesTest {
         Due.rangeAsTold("23: GAUGE not read yet", Gardens::some, -1, 500, -1, (x, v) -> x.gauge(2, v),
             x -> x.gauge(2, 9));
         Due.taken("23: GAUGE 0", Gardens::some, x -> x.gauge(1, 0), 70);
-        FountainNet x = star(2);
+        FountainNet x = Gardens.star(2, 300);
         Due.due("23: not read at first", x.gauge(0, 0), -1);
         Due.due("23: 0 is a reading", x.gauge(0, 500), 0);
         Due.due("23: the other JET's", x.gauge(1, -1), -1);
@@ -101,7 +83,8 @@ public final class GaugeEdgesTest {
 
     /** "4 no GAUGE is read"; "0 if no GAUGE is read" */
     private static void noGaugeIsRead() {
-        for (FountainNet x : new FountainNet[] {new FountainNet(), star(0), star(2), leaking(2, -1, -1)}) {
+        FountainNet[] unread = {new FountainNet(), Gardens.star(0, 300), Gardens.star(2, 300), leaking(2, -1, -1)};
+        for (FountainNet x : unread) {
             told("25: none is read", x, 4, -9, -9, -9, -9);
             Due.due("27: none is read", x.rivals(), 0);
         }
@@ -117,7 +100,7 @@ public final class GaugeEdgesTest {
     /** "each RISE differs by TOL at most" */
     private static void differsByTolAtMost() {
         for (int tol : new int[] {0, 1, 50}) {
-            FountainNet x = star(1);
+            FountainNet x = Gardens.star(1, 300);
             x.play(0, false);
             // SHUT: no LEAK changes its RISE
             x.tol(tol);
@@ -128,17 +111,17 @@ public final class GaugeEdgesTest {
             noSuch("25: SHUT, by more than TOL " + tol, x);
             Due.due("27: SHUT, by more than TOL " + tol, x.rivals(), 0);
             x.play(0, true);
-            x.gauge(0, riseWith(0) + tol);
+            x.gauge(0, Gardens.starRise(0) + tol);
             none("25: read higher by TOL " + tol, x);
-            x.gauge(0, riseWith(0) + tol + 1);
+            x.gauge(0, Gardens.starRise(0) + tol + 1);
             noSuch("25: read higher by more than TOL " + tol, x);
-            x.gauge(0, riseWith(0) - tol);
+            x.gauge(0, Gardens.starRise(0) - tol);
             none("25: read lower by TOL " + tol, x);
-            x.gauge(0, riseWith(0) - tol - 1);
+            x.gauge(0, Gardens.starRise(0) - tol - 1);
             Due.due("25: read lower by more than TOL " + tol, x.explain() == 0 ? 1 : 0, 0);
         }
-        FountainNet y = star(1);
-        y.gauge(0, riseWith(5) + 3);
+        FountainNet y = Gardens.star(1, 300);
+        y.gauge(0, Gardens.starRise(5) + 3);
         y.tol(2);
         noSuch("25: ONE by more than TOL", y);
         y.tol(3);
@@ -152,7 +135,7 @@ public final class GaugeEdgesTest {
         told("25: the second of two", leaking(2, 0, 3), 1, 1, 3, -9, -9);
         told("25: the last of three, too", leaking(3, 3, 0, 1), 2, 0, 3, 2, 1);
         FountainNet x = leaking(2, 0, 0);
-        x.gauge(1, riseWith(0) + 1);
+        x.gauge(1, Gardens.starRise(0) + 1);
         noSuch("25: one of two is too high", x);
     }
 
@@ -175,12 +158,12 @@ public final class GaugeEdgesTest {
         x.leak(1, 60);
         none("25: LEAKS that are told don't count", x);
         Due.due("11: RISE with the LEAK told", x.rise(0), 0);
-        x.gauge(1, riseWith(2));
+        x.gauge(1, Gardens.starRise(2));
         told("25: ONE aside of those told", x, 1, 1, 2, -9, -9);
         x.pipe(1, 2);
         Due.due("25: SIZE as it is", x.explain() == 1 ? x.explained(1) : 0, 5);
         x.pipe(1, 1);
-        x.gauge(0, riseWith(1));
+        x.gauge(0, Gardens.starRise(1));
         told("25: TWO aside of those told", x, 2, 0, 1, 1, 2);
         Due.row("8: the LEAKS are as told", 0, 1, j -> x.jointOf(j, 7), 60, 60);
         Due.row("9: and flow", 0, 1, x::flow, 61, 61);
@@ -245,7 +228,7 @@ public final class GaugeEdgesTest {
     }
 
     private static void oneAheadOfTwo() {
-        FountainNet x = star(3);
+        FountainNet x = Gardens.star(3, 300);
         x.joint(false, 2, 0, 9, 1);
         x.jet(3, 1);
         x.play(3, true);
@@ -253,7 +236,7 @@ public final class GaugeEdgesTest {
         x.gauge(2, 9 * (301 - 25) / 10);
         told("25: ONE of the last PIPES", x, 1, 2, 3, -9, -9);
         Due.due("27: of both of them", x.rivals(), 2);
-        x.gauge(0, riseWith(1));
+        x.gauge(0, Gardens.starRise(1));
         told("25: TWO", x, 2, 0, 1, 2, 3);
     }
 
@@ -276,7 +259,7 @@ public final class GaugeEdgesTest {
         told("25: the first and the last", leaking(4, 2, 0, 0, 9), 2, 0, 2, 3, 9);
         told("25: the last two", leaking(4, 0, 0, 2, 9), 2, 2, 2, 3, 9);
         told("25: the last two, the greater LEAK first", leaking(4, 0, 0, 9, 2), 2, 2, 9, 3, 2);
-        FountainNet x = star(1);
+        FountainNet x = Gardens.star(1, 300);
         // 1 and 2 in a row, and 3, 4 in a row; JETS at the ends
         x.joint(true, 0, 0, 1, 100);
         x.joint(false, 1, 0, 9, 1);
@@ -286,15 +269,15 @@ public final class GaugeEdgesTest {
         x.jet(4, 1);
         x.play(1, true);
         x.play(2, true);
-        x.gauge(1, riseWith(4));
-        x.gauge(2, riseWith(3));
+        x.gauge(1, Gardens.starRise(4));
+        x.gauge(2, Gardens.starRise(3));
         told("25: 1 and 3 ahead of 1 and 4, 2 and 3, 2 and 4", x, 2, 1, 4, 3, 3);
         Due.due("27: none alone", x.rivals(), 0);
     }
 
     /** "the least LEAK of the first, then of the second" */
     private static void leastLeaksOfTwo() {
-        FountainNet x = star(0);
+        FountainNet x = Gardens.star(0, 300);
         x.joint(true, 0, 0, 1, 100);
         x.joint(false, 0, 0, 1, 100);
         x.jet(0, 1);
@@ -316,10 +299,10 @@ public final class GaugeEdgesTest {
     private static void noSuch() {
         noSuch("25: three LEAKS", leaking(3, 1, 1, 1));
         Due.due("27: three LEAKS", leaking(3, 1, 1, 1).rivals(), 0);
-        FountainNet x = star(1);
+        FountainNet x = Gardens.star(1, 300);
         x.gauge(0, 500);
         noSuch("25: higher than it can be", x);
-        FountainNet y = star(0);
+        FountainNet y = Gardens.star(0, 300);
         y.joint(true, 0, 0, 9, 1);
         y.jet(0, 1);
         y.play(0, true);
@@ -334,19 +317,19 @@ public final class GaugeEdgesTest {
         Due.row("26: none told", 0, 3, new FountainNet()::explained, -9, -9, -9, -9);
         FountainNet x = leaking(2, 3, 4);
         Due.row("26: without explain()", 0, 3, x::explained, 0, 3, 1, 4);
-        x.gauge(1, riseWith(0));
+        x.gauge(1, Gardens.starRise(0));
         Due.row("26: as it is now", 0, 3, x::explained, 0, 3, -9, -9);
     }
 
     /** "How many PIPES alone explain it (with some LEAK, 1 .. 60)" */
     private static void rivals() {
-        FountainNet x = star(0);
+        FountainNet x = Gardens.star(0, 300);
         for (int j = 0; j < 30; j++) {
             x.joint(j == 0, Math.max(0, j - 1), 0, j == 0 ? 1 : 9, j == 0 ? 100 : 1);
         }
         x.jet(29, 1);
         x.play(0, true);
-        x.gauge(0, riseWith(3));
+        x.gauge(0, Gardens.starRise(3));
         told("25: the first of all", x, 1, 0, 3, -9, -9);
         Due.due("27: all 30", x.rivals(), 30);
         x.empty(29);
@@ -364,12 +347,12 @@ public final class GaugeEdgesTest {
         Due.due("27: but LEAKS 1 and 2 would, too", x.rivals(), 1);
         none("25: NONE of a lesser SIZE", wideOfSize1(400));
         Due.due("27: LEAK 1 has LOSS 6", wideOfSize1(400).rivals(), 0);
-        FountainNet y = star(2);
+        FountainNet y = Gardens.star(2, 300);
         y.play(1, false);
         y.empty(1);
-        y.gauge(0, riseWith(0));
+        y.gauge(0, Gardens.starRise(0));
         Due.due("27: a LEAK of an EMPTY PIPE changes nothing", y.rivals(), 1);
-        y.gauge(0, riseWith(1));
+        y.gauge(0, Gardens.starRise(1));
         Due.due("27: nor does it explain", y.rivals(), 1);
     }
 

@@ -20,27 +20,8 @@ public final class GaugesTest {
         Due.end("GaugesTest");
     }
 
-    /** PIPES from a TANK, of SIZE 1, LENGTH 100: LOSS is FLOW times FLOW; a JET of DRAW 1 at each end, all PLAY. */
-    private static FountainNet star(int joints, int floor) {
-        FountainNet x = new FountainNet();
-        x.tank(floor, 10, 1, 0);
-        for (int j = 0; j < joints; j++) {
-            x.joint(true, 0, 0, 1, 100);
-            if (j < 24) {
-                x.jet(j, 1);
-                x.play(j, true);
-            }
-        }
-        return x;
-    }
-
     private static FountainNet pair() {
-        return star(2, 300);
-    }
-
-    /** The RISE of a JET of a star of FLOOR 300 with such a LEAK. */
-    private static int riseWith(int leak) {
-        return 9 * (301 - (leak + 1) * (leak + 1)) / 10;
+        return Gardens.star(2, 300);
     }
 
     private static void read(FountainNet x, int... rises) {
@@ -50,26 +31,26 @@ public final class GaugesTest {
     }
 
     private static void gauge() {
-        FountainNet x = star(1, 300);
+        FountainNet x = Gardens.star(1, 300);
         Due.due("23: gauge(0, 500)", x.gauge(0, 500), -1);
         Due.due("23: gauge(0, 0)", x.gauge(0, 0), 500);
         Due.due("23: gauge(0, -1)", x.gauge(0, -1), 0);
         Due.due("23: gauge(0, 7)", x.gauge(0, 7), -1);
-        Due.refused("23: no JET", () -> star(1, 9), y -> y.gauge(1, -2), 1000000001);
-        Due.refused("23: JET -1", () -> star(1, 9), y -> y.gauge(-1, 0), 1000000001);
-        Due.refused("23: JET MAX", () -> star(1, 9), y -> y.gauge(MAX, 0), 1000000001);
-        Due.refused("23: -2", () -> star(1, 9), y -> y.gauge(0, -2), 1000000004);
-        Due.refused("23: MIN", () -> star(1, 9), y -> y.gauge(0, MIN), 1000000004);
-        Due.refused("23: 501", () -> star(1, 9), y -> y.gauge(0, 501), 1000000006);
+        Due.refused("23: no JET", () -> Gardens.star(1, 9), y -> y.gauge(1, -2), 1000000001);
+        Due.refused("23: JET -1", () -> Gardens.star(1, 9), y -> y.gauge(-1, 0), 1000000001);
+        Due.refused("23: JET MAX", () -> Gardens.star(1, 9), y -> y.gauge(MAX, 0), 1000000001);
+        Due.refused("23: -2", () -> Gardens.star(1, 9), y -> y.gauge(0, -2), 1000000004);
+        Due.refused("23: MIN", () -> Gardens.star(1, 9), y -> y.gauge(0, MIN), 1000000004);
+        Due.refused("23: 501", () -> Gardens.star(1, 9), y -> y.gauge(0, 501), 1000000006);
     }
 
     private static void tol() {
-        FountainNet x = star(1, 9);
+        FountainNet x = Gardens.star(1, 9);
         Due.due("24: tol(50)", x.tol(50), 0);
         Due.due("24: tol(0)", x.tol(0), 50);
-        Due.refused("24: tol(-1)", () -> star(1, 9), y -> y.tol(-1), -4);
-        Due.refused("24: tol(51)", () -> star(1, 9), y -> y.tol(51), -6);
-        Due.refused("24: tol(MAX)", () -> star(1, 9), y -> y.tol(MAX), -6);
+        Due.refused("24: tol(-1)", () -> Gardens.star(1, 9), y -> y.tol(-1), -4);
+        Due.refused("24: tol(51)", () -> Gardens.star(1, 9), y -> y.tol(51), -6);
+        Due.refused("24: tol(MAX)", () -> Gardens.star(1, 9), y -> y.tol(MAX), -6);
     }
 
     private static void told(String name, FountainNet x, int explain, int... explained) {
@@ -78,10 +59,10 @@ public final class GaugesTest {
     }
 
     private static void notRead() {
-        FountainNet x = star(3, 300);
+        FountainNet x = Gardens.star(3, 300);
         told("25: no GAUGE", x, 4, -9, -9, -9, -9);
         Due.due("27: no GAUGE", x.rivals(), 0);
-        x.gauge(1, riseWith(16));
+        x.gauge(1, Gardens.starRise(16));
         Due.due("26: explained(1) alone", x.explained(1), 16);
         x.gauge(1, -1);
         told("25: read no more", x, 4, -9, -9, -9, -9);
@@ -90,13 +71,13 @@ public final class GaugesTest {
     }
 
     private static void readAsNothing() {
-        FountainNet x = star(1, 300);
+        FountainNet x = Gardens.star(1, 300);
         x.gauge(0, 0);
         told("25: 0 is read", x, 1, 0, 17, -9, -9);
     }
 
     private static void none() {
-        FountainNet x = star(2, 300);
+        FountainNet x = Gardens.star(2, 300);
         x.leak(0, 40);
         // LEVEL 301, less 1 is 300: 270; the LEAK that is told doesn't count
         x.gauge(0, 270);
@@ -118,7 +99,7 @@ public final class GaugesTest {
     }
 
     private static void one() {
-        FountainNet x = star(3, 300);
+        FountainNet x = Gardens.star(3, 300);
         // 301 less 6 times 6: 265 by 9 tenths
         x.gauge(1, 238);
         told("25: ONE", x, 1, 1, 5, -9, -9);
@@ -174,26 +155,26 @@ public final class GaugesTest {
 
     private static void edgesOfTwo() {
         FountainNet x = pair();
-        read(x, riseWith(12), riseWith(12));
+        read(x, Gardens.starRise(12), Gardens.starRise(12));
         told("25: TWO of 12", x, 2, 0, 12, 1, 12);
-        read(x, riseWith(13), riseWith(12));
+        read(x, Gardens.starRise(13), Gardens.starRise(12));
         told("25: 13 is too much", x, 3, -9, -9, -9, -9);
-        read(x, riseWith(12), riseWith(13));
+        read(x, Gardens.starRise(12), Gardens.starRise(13));
         told("25: 13 of the other is too much", x, 3, -9, -9, -9, -9);
-        read(x, riseWith(1), riseWith(12));
+        read(x, Gardens.starRise(1), Gardens.starRise(12));
         told("25: 1 and 12", x, 2, 0, 1, 1, 12);
-        read(x, riseWith(12), riseWith(1));
+        read(x, Gardens.starRise(12), Gardens.starRise(1));
         told("25: 12 and 1", x, 2, 0, 12, 1, 1);
-        read(x, riseWith(1), riseWith(1));
+        read(x, Gardens.starRise(1), Gardens.starRise(1));
         told("25: 1 and 1", x, 2, 0, 1, 1, 1);
         Due.due("27: none alone", x.rivals(), 0);
     }
 
     private static void firstOfTwo() {
-        FountainNet x = star(30, 300);
-        x.gauge(22, riseWith(3));
-        x.gauge(23, riseWith(7));
-        x.gauge(3, riseWith(0));
+        FountainNet x = Gardens.star(30, 300);
+        x.gauge(22, Gardens.starRise(3));
+        x.gauge(23, Gardens.starRise(7));
+        x.gauge(3, Gardens.starRise(0));
         told("25: the last JETS' JOINTS", x, 2, 22, 3, 23, 7);
         Due.due("27: none alone", x.rivals(), 0);
         FountainNet y = new FountainNet();
@@ -206,7 +187,7 @@ public final class GaugesTest {
         y.jet(3, 1);
         y.play(0, true);
         y.play(1, true);
-        read(y, riseWith(5), riseWith(6));
+        read(y, Gardens.starRise(5), Gardens.starRise(6));
         told("25: the first of four pairs", y, 2, 0, 5, 2, 6);
         FountainNet z = new FountainNet();
         z.tank(400, 10, 1, 0);
@@ -222,8 +203,8 @@ public final class GaugesTest {
     }
 
     private static void noSuch() {
-        FountainNet x = star(3, 300);
-        read(x, riseWith(3), riseWith(4), riseWith(5));
+        FountainNet x = Gardens.star(3, 300);
+        read(x, Gardens.starRise(3), Gardens.starRise(4), Gardens.starRise(5));
         told("25: three LEAKS", x, 3, -9, -9, -9, -9);
         Due.due("27: three LEAKS", x.rivals(), 0);
         x.tol(50);
@@ -232,12 +213,12 @@ public final class GaugesTest {
     }
 
     private static void emptyPipes() {
-        FountainNet x = star(2, 300);
+        FountainNet x = Gardens.star(2, 300);
         x.joint(true, 0, 0, 1, 100);
         x.empty(2);
-        read(x, riseWith(0), riseWith(0));
+        read(x, Gardens.starRise(0), Gardens.starRise(0));
         Due.due("27: a LEAK of an EMPTY PIPE changes nothing", x.rivals(), 1);
-        read(x, riseWith(0), riseWith(2));
+        read(x, Gardens.starRise(0), Gardens.starRise(2));
         told("25: ONE beside an EMPTY PIPE", x, 1, 1, 2, -9, -9);
         x.set(0, 1, 0);
         told("25: no WATER", x, 3, -9, -9, -9, -9);

@@ -33,20 +33,9 @@ public final class WalkEdgesTest {
         Due.end("WalkEdgesTest");
     }
 
-    /** A TANK of 60 of LEVEL 106, no LOSS; JET 0 draws 5 at 10 feet (RISE 86), JET 1 draws 7 at 20 (RISE 77). */
-    private static FountainNet garden() {
-        FountainNet x = new FountainNet();
-        x.tank(100, 10, 6, 0);
-        x.joint(true, 0, 10, 9, 1);
-        x.joint(true, 0, 20, 9, 1);
-        x.jet(0, 5);
-        x.jet(1, 7);
-        return x;
-    }
-
     /** VIEWS told as rows of set, from, to, rise. */
     private static FountainNet viewed(int[]... views) {
-        FountainNet x = garden();
+        FountainNet x = Gardens.twoJets();
         for (int[] told : views) {
             x.view(told[0], told[1], told[2], told[3]);
         }
@@ -89,16 +78,16 @@ public final class WalkEdgesTest {
 
     /** "-4 from not behind the last MINUTE of the VIEW ahead (from 0 on)" */
     private static void behindTheLastMinute() {
-        Due.taken("15: from 0", WalkEdgesTest::garden, x -> x.view(1, 0, 3, 0), 0);
-        Due.refused("15: from -1", WalkEdgesTest::garden, x -> x.view(1, -1, 3, 0), -4);
-        Due.refused("15: from MIN", WalkEdgesTest::garden, x -> x.view(1, MIN, MIN, 0), -4);
+        Due.taken("15: from 0", Gardens::twoJets, x -> x.view(1, 0, 3, 0), 0);
+        Due.refused("15: from -1", Gardens::twoJets, x -> x.view(1, -1, 3, 0), -4);
+        Due.refused("15: from MIN", Gardens::twoJets, x -> x.view(1, MIN, MIN, 0), -4);
         Due.taken("15: from right behind", Gardens::some, x -> x.view(1, 8, 8, 0), 2);
         Due.refused("15: from the last MINUTE", Gardens::some, x -> x.view(1, 7, 8, 0), -4);
         Due.refused("15: from between the VIEWS", Gardens::some, x -> x.view(1, 5, 5, 0), -4);
         Due.refused("15: from 0, a second one", Gardens::some, x -> x.view(1, 0, 0, 0), -4);
         Due.taken("15: behind a VIEW of MINUTE 0", () -> viewed(v(1, 0, 0, 0)), x -> x.view(1, 1, 1, 0), 1);
         Due.refused("15: MINUTE 0 twice", () -> viewed(v(1, 0, 0, 0)), x -> x.view(1, 0, 1, 0), -4);
-        FountainNet x = garden();
+        FountainNet x = Gardens.twoJets();
         x.minutes(1440);
         Due.due("15: one that has been", x.view(1, 0, 0, 0), 0);
     }
@@ -135,7 +124,7 @@ public final class WalkEdgesTest {
     }
 
     private static FountainNet many(int views) {
-        FountainNet x = garden();
+        FountainNet x = Gardens.twoJets();
         for (int i = 0; i < views; i++) {
             x.view(1 + i % 3, 2 * i, 2 * i + 1, i);
         }
@@ -196,7 +185,7 @@ public final class WalkEdgesTest {
         Due.due("16: none is left", x.unview(), -3);
         Due.due("16: from 0 on again", x.view(1, 0, 0, 0), 0);
         Due.refused("16: none told", FountainNet::new, FountainNet::unview, -3);
-        Due.refused("16: none told yet", WalkEdgesTest::garden, FountainNet::unview, -3);
+        Due.refused("16: none told yet", Gardens::twoJets, FountainNet::unview, -3);
         FountainNet y = Gardens.some();
         y.unview();
         Due.due("16: from behind the one that is left", y.view(1, 5, 5, 0), 1);
@@ -401,11 +390,11 @@ public final class WalkEdgesTest {
     private static void walkRefusedInOrder() {
         Due.whats("17: walk", Gardens::some, 4, (x, w) -> x.walk(w));
         Due.refused("17: none told", FountainNet::new, x -> x.walk(0), -3);
-        Due.refused("17: no VIEW told", WalkEdgesTest::garden, x -> x.walk(4), -3);
-        Due.refused("17: OTHER ahead of STATE", WalkEdgesTest::garden, x -> x.walk(5), -2);
-        Due.refused("17: OTHER ahead of STATE, below", WalkEdgesTest::garden, x -> x.walk(-1), -2);
+        Due.refused("17: no VIEW told", Gardens::twoJets, x -> x.walk(4), -3);
+        Due.refused("17: OTHER ahead of STATE", Gardens::twoJets, x -> x.walk(5), -2);
+        Due.refused("17: OTHER ahead of STATE, below", Gardens::twoJets, x -> x.walk(-1), -2);
         Due.refused("18: none told", FountainNet::new, FountainNet::most, -3);
-        Due.refused("18: no VIEW told", WalkEdgesTest::garden, FountainNet::most, -3);
+        Due.refused("18: no VIEW told", Gardens::twoJets, FountainNet::most, -3);
     }
 
     private static FountainNet at(int minute) {

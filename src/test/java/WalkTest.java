@@ -19,19 +19,8 @@ public final class WalkTest {
         Due.end("WalkTest");
     }
 
-    /** A TANK of 60 at LEVEL 106, no LOSS; JET 0 draws 5 at 10 feet, JET 1 draws 7 at 20. */
-    private static FountainNet garden() {
-        FountainNet x = new FountainNet();
-        x.tank(100, 10, 6, 0);
-        x.joint(true, 0, 10, 9, 1);
-        x.joint(true, 0, 20, 9, 1);
-        x.jet(0, 5);
-        x.jet(1, 7);
-        return x;
-    }
-
     private static FountainNet viewed() {
-        FountainNet x = garden();
+        FountainNet x = Gardens.twoJets();
         x.view(1, 2, 4, 30);
         x.view(3, 6, 7, 40);
         return x;
@@ -42,14 +31,14 @@ public final class WalkTest {
     }
 
     private static void view() {
-        FountainNet x = garden();
+        FountainNet x = Gardens.twoJets();
         Due.due("15: the least", x.view(1, 0, 0, 0), 0);
         Due.due("15: right behind", x.view(2, 1, 5, 500), 1);
         Due.due("15: the last MINUTE again", x.view(2, 5, 6, 0), -4);
         Due.due("15: to 1440", x.view(3, 1439, 1440, 1), 2);
         Due.due("15: 1441", x.view(3, 1441, 1441, 1), -6);
         Due.due("33: count(5)", x.count(5), 3);
-        FountainNet y = garden();
+        FountainNet y = Gardens.twoJets();
         y.minutes(100);
         Due.due("15: one that has been", y.view(3, 3, 5, 1), 0);
     }
@@ -68,11 +57,11 @@ public final class WalkTest {
         Due.refused("15: to 1441", WalkTest::viewed, x -> x.view(1, 8, 1441, 0), -6);
         Due.refused("15: to MAX", WalkTest::viewed, x -> x.view(1, MAX, MAX, 0), -6);
         Due.refused("15: rise 501", WalkTest::viewed, x -> x.view(1, 8, 8, 501), -6);
-        Due.refused("15: from -1, the first", WalkTest::garden, x -> x.view(1, -1, 8, 0), -4);
+        Due.refused("15: from -1, the first", Gardens::twoJets, x -> x.view(1, -1, 8, 0), -4);
     }
 
     private static void mostViews() {
-        FountainNet x = garden();
+        FountainNet x = Gardens.twoJets();
         for (int i = 0; i < 12; i++) {
             Due.due("15: view " + i, x.view(1 + i % 3, i, i, 0), i);
         }
@@ -91,7 +80,7 @@ public final class WalkTest {
         Due.due("16: unview()", x.unview(), 0);
         Due.due("16: unview()", x.unview(), -3);
         Due.due("16: from 0 on again", x.view(1, 0, 0, 0), 0);
-        Due.refused("16: none", WalkTest::garden, y -> y.unview(), -3);
+        Due.refused("16: none", Gardens::twoJets, y -> y.unview(), -3);
     }
 
     private static void walkToItsEnd() {
@@ -116,7 +105,7 @@ public final class WalkTest {
     }
 
     private static void walkThatFails() {
-        FountainNet x = garden();
+        FountainNet x = Gardens.twoJets();
         x.view(1, 1, 3, 86);
         x.view(3, 4, 9, 70);
         // LEVEL 106, 105, 105 less 10: 86, 85, ...
@@ -156,7 +145,7 @@ public final class WalkTest {
     }
 
     private static void walkOfTwoTanks() {
-        FountainNet x = garden();
+        FountainNet x = Gardens.twoJets();
         x.tank(50, 4, 1, 1);
         x.joint(true, 1, 0, 9, 1);
         x.jet(2, 2);
@@ -172,7 +161,7 @@ public final class WalkTest {
     }
 
     private static void walkOfEmptyPipes() {
-        FountainNet x = garden();
+        FountainNet x = Gardens.twoJets();
         x.view(3, 0, 1, 1);
         x.empty(1);
         found("17: behind an EMPTY PIPE", x, 0, 0, 1, 0, 60);
@@ -185,10 +174,10 @@ public final class WalkTest {
     private static void walkRefused() {
         Due.refused("17: what 5", WalkTest::viewed, x -> x.walk(5), -2);
         Due.refused("17: what -1", WalkTest::viewed, x -> x.walk(-1), -2);
-        Due.refused("17: what 5, no VIEW", WalkTest::garden, x -> x.walk(5), -2);
-        Due.refused("17: no VIEW", WalkTest::garden, x -> x.walk(0), -3);
-        Due.refused("17: what MIN", WalkTest::garden, x -> x.walk(MIN), -2);
-        Due.refused("18: no VIEW", WalkTest::garden, FountainNet::most, -3);
+        Due.refused("17: what 5, no VIEW", Gardens::twoJets, x -> x.walk(5), -2);
+        Due.refused("17: no VIEW", Gardens::twoJets, x -> x.walk(0), -3);
+        Due.refused("17: what MIN", Gardens::twoJets, x -> x.walk(MIN), -2);
+        Due.refused("18: no VIEW", Gardens::twoJets, FountainNet::most, -3);
         Due.refused("18: no VIEW now or later", WalkTest::later, FountainNet::most, -3);
         Due.refused("17: no VIEW now or later", WalkTest::later, x -> x.walk(4), -3);
     }
@@ -200,7 +189,7 @@ public final class WalkTest {
     }
 
     private static void most() {
-        FountainNet x = garden();
+        FountainNet x = Gardens.twoJets();
         x.view(1, 1, 3, 500);
         x.view(3, 4, 6, 500);
         // JET 1 at MINUTE 6: LEVEL 102, less 20
