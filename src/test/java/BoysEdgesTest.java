@@ -10,6 +10,7 @@ public final class BoysEdgesTest {
         bothAreOne();
         oneMinuteBetween();
         whoIsInBothStays();
+        oneForEachJet();
         allCountAsShut();
         ofAllViews();
         byMinutesThenJets();
@@ -22,6 +23,7 @@ public final class BoysEdgesTest {
         greatestPace();
         sixtyTasks();
         boysPassOn();
+        beginsWhereverItLikes();
         boysOfTheFirstMinute();
         boysOfWhatIsLeft();
         Due.end("BoysEdgesTest");
@@ -105,6 +107,13 @@ public final class BoysEdgesTest {
             t(3, 2, 0));
         tasks("21: all stay", viewed(7, 1, 1, 7, 2, 2), t(1, 0, 1), t(1, 1, 1), t(1, 2, 1), t(3, 0, 0), t(3, 1, 0),
             t(3, 2, 0));
+    }
+
+    /** "TASKS: one for each JET that is opened or shut" */
+    private static void oneForEachJet() {
+        tasks("21: of one", viewed(4, 2, 3), t(2, 2, 1), t(4, 2, 0));
+        tasks("21: of two", viewed(5, 2, 3), t(2, 0, 1), t(2, 2, 1), t(4, 0, 0), t(4, 2, 0));
+        tasks("21: of three", viewed(7, 2, 2), t(2, 0, 1), t(2, 1, 1), t(2, 2, 1), t(3, 0, 0), t(3, 1, 0), t(3, 2, 0));
     }
 
     /** "(all count as shut ahead of the first VIEW)" */
@@ -261,6 +270,17 @@ public final class BoysEdgesTest {
         x.unview();
         x.view(4, 25, 25, 0);
         Due.due("22: one less, at last", x.boys(), 2);
+    }
+
+    /** "a BOY beginning wherever it likes": no RUN leads to its first TASK. */
+    private static void beginsWhereverItLikes() {
+        FountainNet x = at(29, 0);
+        x.pace(30);
+        x.view(1, 0, 1440, 0);
+        Due.due("22: at the last JOINT at MINUTE 0", x.boys(), 1);
+        x.unview();
+        x.view(3, 0, 1440, 0);
+        Due.due("22: one at each end", x.boys(), 2);
     }
 
     /** All later TASKS are far apart: only those of the first MINUTE, or of the last one, need two. */

@@ -45,12 +45,28 @@ final class Due {
                 int more = k == kind ? 1 : 0;
                 due(call + ", then refusals of kind " + k, behind.count(10 + k), before.count(10 + k) + more);
             }
-            List<Integer> is = look(behind, part);
-            List<Integer> was = look(before, part);
-            if (!is.equals(was)) {
-                wrong++;
-                System.out.println(call + " was refused, but changed " + was + " to " + is);
-            }
+            sameLook(call + " was refused, but", before, behind, part);
+        }
+    }
+
+    /** A call must change nothing, count no refusal, and answer the same once more. */
+    static void unchanged(String call, Supplier<FountainNet> made, ToIntFunction<FountainNet> act) {
+        for (int part = 0; part < PARTS; part++) {
+            FountainNet before = made.get();
+            FountainNet behind = made.get();
+            int answer = act.applyAsInt(behind);
+            due(call + ", once more", act.applyAsInt(behind), answer);
+            due(call + ", then refusals", refusals(behind), refusals(before));
+            sameLook(call, before, behind, part);
+        }
+    }
+
+    private static void sameLook(String call, FountainNet before, FountainNet behind, int part) {
+        List<Integer> is = look(behind, part);
+        List<Integer> was = look(before, part);
+        if (!is.equals(was)) {
+            wrong++;
+            System.out.println(call + " changed " + was + " to " + is);
         }
     }
 

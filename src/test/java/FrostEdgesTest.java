@@ -6,6 +6,7 @@ public final class FrostEdgesTest {
     public static void main(String[] args) {
         allThatComeFromItAre();
         noJetAtItPlays();
+        oneAtATime();
         emptiedTwice();
         emptyRefusedInOrder();
         fillOneAtATime();
@@ -87,6 +88,19 @@ public final class FrostEdgesTest {
         x.play(0, false);
         Due.due("28: SHUT again", x.empty(1), 1);
         Due.due("28: a JET doesn't PLAY by it", x.count(4), 0);
+    }
+
+    /** "PIPES are EMPTIED, one at a time" */
+    private static void oneAtATime() {
+        FountainNet x = tree();
+        Due.due("28: the last", x.empty(3), 1);
+        Due.row("28: just this one is EMPTY", 0, 3, j -> x.jointOf(j, 6), 0, 0, 0, 1);
+        Due.due("28: the one ahead of it", x.empty(2), 1);
+        Due.row("28: then both are", 0, 3, j -> x.jointOf(j, 6), 0, 0, 1, 1);
+        Due.due("28: the one beside", x.empty(1), 1);
+        Due.row("28: then three", 0, 3, j -> x.jointOf(j, 6), 0, 1, 1, 1);
+        Due.due("28: the first", x.empty(0), 1);
+        Due.due("28: then all", x.count(6), 4);
     }
 
     /** "-3 it is" */

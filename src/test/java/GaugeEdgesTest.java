@@ -8,6 +8,7 @@ public final class GaugeEdgesTest {
         gaugeRefusedInOrder();
         tol();
         noGaugeIsRead();
+        eachAnswer();
         differsByTolAtMost();
         allThatAreRead();
         noneAheadOfOne();
@@ -19,7 +20,7 @@ public final class GaugeEdgesTest {
         twoLeaksOf1To12();
         firstTwoPipes();
         leastLeaksOfTwo();
-        noSuch();
+        noLeaksDo();
         explainedRefused();
         rivals();
         rivalsOfLeaks();
@@ -95,6 +96,15 @@ public final class GaugeEdgesTest {
         Due.due("27: not any more", x.rivals(), 0);
         x.gauge(0, 0);
         Due.due("25: 0 is read", x.explain(), 1);
+    }
+
+    /** "0 NONE explains it; 1 ONE does; 2 TWO do; 3 no such"; "0, 1 the first JOINT, its LEAK; 2, 3 the second ones" */
+    private static void eachAnswer() {
+        told("25: NONE does", leaking(3, 0, 0, 0), 0, -9, -9, -9, -9);
+        told("25: ONE does", leaking(3, 0, 7, 0), 1, 1, 7, -9, -9);
+        told("25: TWO do", leaking(3, 0, 7, 5), 2, 1, 7, 2, 5);
+        told("25: no such", leaking(3, 1, 7, 5), 3, -9, -9, -9, -9);
+        told("25: none is read", leaking(3, -1, -1, -1), 4, -9, -9, -9, -9);
     }
 
     /** "each RISE differs by TOL at most" */
@@ -296,7 +306,7 @@ public final class GaugeEdgesTest {
         told("25: the least of both", y, 2, 0, 4, 1, 4);
     }
 
-    private static void noSuch() {
+    private static void noLeaksDo() {
         noSuch("25: three LEAKS", leaking(3, 1, 1, 1));
         Due.due("27: three LEAKS", leaking(3, 1, 1, 1).rivals(), 0);
         FountainNet x = Gardens.star(1, 300);

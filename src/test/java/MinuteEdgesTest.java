@@ -6,6 +6,7 @@ public final class MinuteEdgesTest {
     public static void main(String[] args) {
         atMost1440();
         belowOne();
+        eachTank();
         toTheFullAndWhatIsMore();
         soMuchOrWhatLacks();
         springComesFirst();
@@ -68,6 +69,25 @@ public final class MinuteEdgesTest {
             Due.refused("13: -1 at " + minute, () -> at(minute), x -> x.minutes(-1), -4);
             Due.refused("13: MIN at " + minute, () -> at(minute), x -> x.minutes(MIN), -4);
         }
+    }
+
+    /** "A MINUTE passes: each TANK", by what is its own. */
+    private static void eachTank() {
+        FountainNet x = new FountainNet();
+        for (int i = 0; i < 4; i++) {
+            x.tank(100, 10, 6, 10 * i);
+            x.set(i, 1, 40 - 10 * i);
+            x.joint(true, i, 0, 9, 1);
+            x.jet(i, 1 + i);
+            x.play(i, true);
+        }
+        Due.due("13: MINUTE", x.minutes(1), 1);
+        Due.row("13: WATER of each", 0, 3, i -> x.tankOf(i, 1), 39, 38, 37, 36);
+        x.minutes(3);
+        // SPILLED: of the second 4 of 64; of the third 14 of 74, 17 of 77; of the last 6 of 66, then 26 of 86 twice
+        Due.row("13: WATER of each, 3 MINUTES later", 0, 3, i -> x.tankOf(i, 1), 36, 60 - 2, 60 - 3, 60 - 4);
+        Due.row("13: SPILLED of each", 0, 3, i -> x.tankOf(i, 3), 0, 4, 14 + 17, 6 + 26 + 26);
+        Due.row("13: LACK of each", 0, 3, i -> x.tankOf(i, 4), 0, 0, 0, 0);
     }
 
     /** "WATER is more by SPRING (to AREA times DEPTH; what is more is SPILLED)" */

@@ -6,6 +6,7 @@ public final class PipeEdgesTest {
     public static void main(String[] args) {
         eachNumberOfAJoint();
         fromWhatIsThereAlready();
+        feeder();
         thirtyAtMost();
         pipeAheadEmpty();
         jointRefusedInOrder();
@@ -62,6 +63,28 @@ public final class PipeEdgesTest {
         Due.row("32: FEEDER", 0, 5, j -> x.jointOf(j, 3), 0, 1, 2, 3, 0, 1);
         Due.row("32: the JOINT ahead", 0, 5, j -> x.jointOf(j, 4), -9, -9, -9, -9, 0, 1);
         Due.due("32: FEEDER of the last", x.jointOf(29, 3), 1);
+    }
+
+    /** "FEEDER: the TANK from which a JOINT comes." */
+    private static void feeder() {
+        FountainNet x = new FountainNet();
+        for (int i = 0; i < 4; i++) {
+            x.tank(100 + 50 * i, 10, 6, 0);
+        }
+        x.joint(true, 3, 0, 9, 1);
+        x.joint(true, 0, 0, 9, 1);
+        x.joint(false, 0, 0, 9, 1);
+        x.joint(false, 1, 0, 9, 1);
+        x.joint(false, 2, 0, 9, 1);
+        x.joint(true, 2, 0, 9, 1);
+        x.joint(false, 3, 0, 9, 1);
+        Due.row("32: FEEDER", 0, 6, j -> x.jointOf(j, 3), 3, 0, 3, 0, 3, 2, 0);
+        Due.row("10: HEAD by the FEEDER's LEVEL", 0, 6, x::head, 256, 106, 256, 106, 256, 206, 106);
+        x.set(3, 1, 0);
+        Due.row("10: HEAD, the last TANK has no WATER", 0, 6, x::head, 0, 106, 0, 106, 0, 206, 106);
+        x.leak(4, 7);
+        x.leak(6, 5);
+        Due.row("31: FLOW out of each TANK", 0, 3, i -> x.tankOf(i, 5), 5, 0, 0, 7);
     }
 
     /** "JOINTS have numbers from 0 on (30 at most)" */

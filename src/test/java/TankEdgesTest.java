@@ -18,6 +18,7 @@ public final class TankEdgesTest {
         springSet();
         waterSet();
         setRefusedInOrder();
+        tankOf();
         tankOfRefusedInOrder();
         Due.end("TankEdgesTest");
     }
@@ -153,6 +154,24 @@ public final class TankEdgesTest {
         Due.refused("3: OTHER ahead of BELOW", Gardens::some, x -> x.set(0, 2, -1), -2);
         Due.refused("3: OTHER ahead of ROOM", Gardens::some, x -> x.set(0, -1, MAX), -2);
         Due.refused("3: all of them", Gardens::some, x -> x.set(-1, -1, MIN), -1);
+    }
+
+    /** "Of a TANK: 0 LEVEL, 1 WATER, 2 SPRING, 3 SPILLED, 4 LACK, 5 FLOW out of it." */
+    private static void tankOf() {
+        FountainNet x = new FountainNet();
+        x.tank(100, 10, 2, 9);
+        x.joint(true, 0, 10, 9, 1);
+        x.jet(0, 12);
+        x.play(0, true);
+        // 20 and 9 to 20, less 12: 8; then 5, 2; then 11 of 12
+        x.minutes(4);
+        Due.row("31: behind 4 MINUTES", 0, 5, w -> x.tankOf(0, w), 100, 0, 9, 9, 1, 12);
+        x.set(0, 1, 20);
+        x.minutes(1);
+        Due.row("31: full again, and behind another one", 0, 5, w -> x.tankOf(0, w), 100, 8, 9, 18, 1, 12);
+        x.play(0, false);
+        x.set(0, 0, 2);
+        Due.row("31: SHUT, with another SPRING", 0, 5, w -> x.tankOf(0, w), 100, 8, 2, 18, 1, 0);
     }
 
     /** "-1; -2." */

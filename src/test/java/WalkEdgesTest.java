@@ -19,6 +19,7 @@ public final class WalkEdgesTest {
         justItsJets();
         leastJetOfTheView();
         fromNowOn();
+        onWhatThereIs();
         minutesAheadOfAView();
         toItsEnd();
         waterOfTheWalk();
@@ -287,6 +288,36 @@ public final class WalkEdgesTest {
         found("17: right behind it", x, -9, -9, -9, 24, 36);
         x.minutes(1);
         found("17: in the midst of the second", x, -9, -9, -9, 12, 48);
+    }
+
+    /** "on what there is as it is": WATER, SPRING, LEAKS, SIZES, EMPTY PIPES, and JETS told later. */
+    private static void onWhatThereIs() {
+        FountainNet x = new FountainNet();
+        x.tank(100, 10, 6, 0);
+        x.joint(true, 0, 10, 9, 200);
+        x.jet(0, 5);
+        x.view(1, 0, 1, 85);
+        found("17: LEVELS 106 and 105", x, -9, -9, -9, 10, 50);
+        x.set(0, 1, 40);
+        found("17: other WATER", x, 0, 0, 0, 0, 40);
+        x.set(0, 1, 60);
+        x.set(0, 0, 3);
+        found("17: a SPRING", x, -9, -9, -9, 10, 53);
+        x.set(0, 0, 0);
+        x.joint(true, 0, 0, 9, 1);
+        x.leak(1, 7);
+        found("17: a LEAK", x, 1, 0, 0, 12, 48);
+        x.leak(1, 0);
+        x.pipe(0, 1);
+        // LOSS 25 times 200 by 100
+        Due.due("18: another SIZE", x.most(), 9 * (105 - 50 - 10) / 10);
+        x.pipe(0, 9);
+        x.jet(1, 50);
+        found("17: a JET that isn't of the VIEW", x, -9, -9, -9, 10, 50);
+        x.empty(0);
+        found("17: an EMPTY PIPE", x, 0, 0, 0, 0, 60);
+        x.fill(0);
+        found("17: FILLED again", x, -9, -9, -9, 10, 50);
     }
 
     private static void minutesAheadOfAView() {
