@@ -1,6 +1,4 @@
-import java.io.DataInputStream;
 import java.io.IOException;
-import java.io.InputStream;
 import java.lang.reflect.Executable;
 import java.lang.reflect.Field;
 import java.lang.reflect.Method;
@@ -10,7 +8,6 @@ import java.nio.file.Files;
 import java.nio.file.Path;
 import java.util.ArrayList;
 import java.util.Arrays;
-import java.util.HashMap;
 import java.util.List;
 import java.util.Map;
 import java.util.Set;
@@ -34,7 +31,7 @@ public final class FormTest {
         "java/util/ArrayList.size", "java/util/ArrayList.isEmpty", "java/lang/Math.max", "java/lang/Math.min",
         "java/lang/Math.abs", "java/lang/Integer.bitCount");
     private static final List<String> BANNED = List.of("throw", "throws", "try", "catch", "synchronized", "assert",
-        "equals", "hashCode", "toString", "System", "Object", "while \\(true\\)", "for \\(;;\\)", "for \\([^;]*;;");
+        "equals", "hashCode", "toString", "System", "Object", "while \\(true\\)", "for \\([^;]*;;");
     private static final Set<String> BUILDERS = Set.of("tank", "joint", "jet", "view");
     private static final Pattern METHOD = Pattern.compile("( {4}| {8})(?:[\\w<>\\[\\]]+ )*(\\w+)\\([^()]*\\) \\{");
     private static final int MOST_CLASSES = 12;
@@ -136,61 +133,10 @@ public final class FormTest {
     /** Also rules 2 and 6 (no lambda, no text joined by +: both would be called dynamically) and 13. */
     private void rule4Library() throws IOException {
         for (Class<?> c : classes) {
-            for (String called : called(c)) {
-                must(called.startsWith("FountainNet") || LIBRARY.contains(called), "rule 4: " + c + " calls " + called);
+            for (String used : CompiledClass.used(c)) {
+                must(used.startsWith("FountainNet") || LIBRARY.contains(used), "rule 4: " + c + " uses " + used);
             }
         }
-    }
-
-    /** All that a compiled class calls or uses of others, as "java/lang/Math.max", read from its constants. */
-    private static Set<String> called(Class<?> c) throws IOException {
-        Map<Integer, String> texts = new HashMap<>();
-        Map<Integer, int[]> pairs = new HashMap<>();
-        Set<Integer> members = new TreeSet<>();
-        Set<String> called = new TreeSet<>();
-        try (InputStream file = FormTest.class.getResourceAsStream(c.getName() + ".class");
-                DataInputStream in = new DataInputStream(file)) {
-            in.skipBytes(8);
-            int count = in.readUnsignedShort();
-            for (int i = 1; i < count; i++) {
-                int tag = in.readUnsignedByte();
-                switch (tag) {
-                    case 1:
-                        texts.put(i, in.readUTF());
-                        break;
-                    case 3:
-                    case 4:
-                        in.readInt();
-                        break;
-                    case 5:
-                    case 6:
-                        in.readLong();
-                        i++;
-                        break;
-                    case 7:
-                    case 8:
-                        pairs.put(i, new int[] {in.readUnsignedShort(), 0});
-                        break;
-                    case 9:
-                    case 10:
-                    case 11:
-                    case 12:
-                        pairs.put(i, new int[] {in.readUnsignedShort(), in.readUnsignedShort()});
-                        if (tag != 12) {
-                            members.add(i);
-                        }
-                        break;
-                    default:
-                        called.add("something by a constant of kind " + tag);
-                        return called;
-                }
-            }
-        }
-        for (int i : members) {
-            String owner = texts.get(pairs.get(pairs.get(i)[0])[0]);
-            called.add(owner + "." + texts.get(pairs.get(pairs.get(i)[1])[0]));
-        }
-        return called;
     }
 
     private void rule5Constants() {
