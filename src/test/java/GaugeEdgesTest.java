@@ -13,6 +13,7 @@ public final class GaugeEdgesTest {
         allThatAreRead();
         noneAheadOfOne();
         justTheseLeaks();
+        allOthersAreNothing();
         shutAndDryOnes();
         oneLeakOf1To60();
         firstPipeLeastLeak();
@@ -177,6 +178,25 @@ public final class GaugeEdgesTest {
         told("25: TWO aside of those told", x, 2, 0, 1, 1, 2);
         Due.row("8: the LEAKS are as told", 0, 1, j -> x.jointOf(j, 7), 60, 60);
         Due.row("9: and flow", 0, 1, x::flow, 61, 61);
+    }
+
+    /** "(all others 0)": also those that were tried ahead of what explains it. LOSS is FLOW times FLOW, DRAW 5. */
+    private static void allOthersAreNothing() {
+        int[] leaks = {0, 0, 3, 4};
+        FountainNet x = new FountainNet();
+        x.tank(400, 10, 1, 0);
+        for (int i = 0; i < leaks.length; i++) {
+            x.joint(true, 0, 0, 1, 100);
+            x.jet(i, 5);
+            x.play(i, true);
+            x.gauge(i, 9 * (401 - (5 + leaks[i]) * (5 + leaks[i])) / 10);
+        }
+        told("25: TWO behind others", x, 2, 2, 3, 3, 4);
+        x.gauge(3, 9 * (401 - 25) / 10);
+        told("25: ONE behind others", x, 1, 2, 3, -9, -9);
+        Due.due("27: ONE behind others", x.rivals(), 1);
+        x.gauge(2, 9 * (401 - 25) / 10);
+        none("25: NONE behind others", x);
     }
 
     private static void shutAndDryOnes() {
